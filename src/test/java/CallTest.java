@@ -137,7 +137,17 @@ public final class CallTest {
         is(b, ":ttx is a FILE", b.open(":ttx", 4), 1, 0);
         is(b, ":t is a FILE", b.open(":t", 4), 2, 0);
         is(b, ":tT is a FILE", b.open(":tT", 4), 3, 0);
-        check.same("names", b.names(), ":ttx :t :tT");
+        is(b, ":xt is a FILE", b.open(":xt", 4), 4, 0);
+        is(b, "xtt is a FILE", b.open("xtt", 4), 5, 0);
+        check.same("names", b.names(), ":ttx :t :tT :xt xtt");
+        b.write(5, "abc");
+        b.call(2, 5);
+        is(b, "the CONSOLE by a HANDLE that had a FILE", b.open(":tt", 4), 5, 0);
+        check.same("its PLACE", b.x.handle(5, 1), 0);
+        check.same("its FILE", b.x.handle(5, 2), -1);
+        is(b, "WRITE to it", b.write(5, "xyz"), 0, 0);
+        check.same("came to OUT", b.output(0), "xyz");
+        check.same("not to the FILE", b.content(4), "abc");
     }
 
     private static void openWhenFull() {
@@ -429,6 +439,10 @@ public final class CallTest {
         check.same("its bytes", b.memory(2000, 8), "tmp007\0*");
         is(b, "TMPNAM 255", b.call(13, 16377, 255, -1), 0, 0);
         check.same("at the end", b.memory(16377, 7), "tmp255\0");
+        is(b, "TMPNAM 0", b.call(13, 2001, 0, 7), 0, 0);
+        check.same("no digits but 0", b.memory(2001, 7), "tmp000\0");
+        is(b, "TMPNAM 200", b.call(13, 2001, 200, 7), 0, 0);
+        check.same("hundreds", b.memory(2001, 7), "tmp200\0");
         is(b, "TMPNAM 90", b.call(13, 2001, 90, 100), 0, 0);
         check.same("digits", b.memory(2001, 7), "tmp090\0");
         fails(b, "256", b.call(13, 2000, 256, 7), 22);
@@ -466,6 +480,11 @@ public final class CallTest {
         check.same("names", b.names(), "b a");
         check.same("without bytes", b.x.file(1, 0), 0);
         check.same("its number", b.x.handle(1, 2), 1);
+        b.lay("gone", "bytes");
+        b.remove("gone");
+        is(b, "a new one to ADD", b.open("next", 8), 2, 16);
+        check.same("has none of what is gone", b.x.file(2, 0), 0);
+        check.same("nor its NAME", b.names(), "b a next");
     }
 
     private static void rename() {
@@ -527,8 +546,10 @@ public final class CallTest {
         is(b, "n 7 at the end", b.call(21, 16377, 7), 0, 14);
         check.same("at the end", b.memory(16377, 7), "run me\0");
         check.same("size", b.word(Bench.BLOCK + 4), 6);
+        b.bytes(1990, "********************");
         is(b, "n without sign", b.call(21, 2000, -1), 0, 14);
-        check.same("its bytes", b.memory(2000, 7), "run me\0");
+        check.same("its bytes, and nothing round them", b.memory(1999, 9), "*run me\0*");
+        check.same("nor ahead", b.memory(1990, 10), "**********");
         is(b, "more room than the MEMORY has", b.call(21, 16377, 5000), 0, 14);
         is(b, "over its own FIELD", b.call(21, Bench.BLOCK + 2, 80), 0, 14);
         check.same("the size comes last", b.memory(Bench.BLOCK + 2, 7), "ru\6\0\0\0\0");

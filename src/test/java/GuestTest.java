@@ -65,6 +65,8 @@ public final class GuestTest {
         gives("SLL", Rv.op(1, 0, 3, 1, 2), 3, 33, 6);
         gives("SLT", Rv.op(2, 0, 3, 1, 2), -1, 0, 1);
         gives("SLT not", Rv.op(2, 0, 3, 1, 2), 0, -1, 0);
+        gives("SLT of the same", Rv.op(2, 0, 3, 1, 2), 4, 4, 0);
+        gives("SLTU of the same", Rv.op(3, 0, 3, 1, 2), 4, 4, 0);
         gives("SLTU", Rv.op(3, 0, 3, 1, 2), 0, -1, 1);
         gives("SLTU not", Rv.op(3, 0, 3, 1, 2), -1, 0, 0);
         gives("XOR", Rv.op(4, 0, 3, 1, 2), 12, 10, 6);
@@ -74,6 +76,7 @@ public final class GuestTest {
         gives("AND", Rv.op(7, 0, 3, 1, 2), 12, 10, 8);
         gives("LUI", Rv.lui(3, 0xFFFFF), 0, 0, -4096);
         gives("AUIPC", Rv.auipc(3, 0x80000), 0, 0, LEAST + 64);
+        gives("AUIPC of a small number", Rv.auipc(3, 1), 0, 0, 4096 + 64);
         gives("FENCE", 0x0FF0000F, 0, 0, 77);
         gives("FENCE with all else", 0xFFFF8F8F, 0, 0, 77);
         gives("FENCE.I", 0x0000100F, 0, 0, 77);
@@ -188,11 +191,15 @@ public final class GuestTest {
     private static void stores() {
         Bench b = new Bench();
         b.words(0, Rv.store(0, 2, 1, 1), Rv.store(1, 2, 1, 6), Rv.store(2, 2, 1, 8), Rv.store(2, 2, 1, -4),
-                Rv.store(2, 2, 3, 0));
+                Rv.store(2, 2, 3, 0), Rv.store(2, 2, 1, 1364), Rv.store(2, 2, 4, -2048), Rv.store(0, 2, 1, 2047));
+        b.x.set(4, 6000);
         b.x.set(1, 1000);
         b.x.set(2, 0x89ABCDEF);
         b.x.set(3, 16380);
-        check.same("run", b.x.run(5), 5);
+        check.same("run", b.x.run(8), 8);
+        check.same("SW by 1,364", b.word(2364), 0x89ABCDEF);
+        check.same("SW by the least", b.word(3952), 0x89ABCDEF);
+        check.same("SB by the most", b.x.peek(3047), 0xEF);
         check.same("SB", b.word(1000), 0xEF00);
         check.same("SH", b.word(1004), 0xCDEF0000);
         check.same("SW", b.word(1008), 0x89ABCDEF);
@@ -226,6 +233,9 @@ public final class GuestTest {
             leads("branch " + k[0], Rv.branch(k[0], 1, 2, 2048 + 32), k[1], k[2], k[3] == 1 ? 64 + 2080 : 68);
             leads("branch back " + k[0], Rv.branch(k[0], 1, 2, -64), k[1], k[2], k[3] == 1 ? 0 : 68);
         }
+        for (int r = 0; r < 32; r++) {
+            leads("a branch by register " + r, Rv.branch(0, r, r, 1364), 1, 1, 64 + 1364);
+        }
         leads("a branch below 0", Rv.branch(0, 1, 2, -4096), 1, 1, 64 - 4096);
         leads("a long branch", Rv.branch(0, 1, 2, 4092), 1, 1, 64 + 4092);
         traps("a crooked branch", Rv.branch(0, 1, 2, 6), 1, 1, 1);
@@ -238,6 +248,9 @@ public final class GuestTest {
             Bench b = one(Rv.jal(3, offset), 0, 0);
             check.same("JAL " + offset, b.x.register(32), 64 + offset);
             check.same("JAL's register", b.x.register(3), 68);
+            for (int rd = 0; rd < 32; rd++) {
+                leads("JAL to register " + rd, Rv.jal(rd, offset), 0, 0, 64 + offset);
+            }
         }
         traps("a crooked JAL", Rv.jal(3, 6), 0, 0, 1);
         Bench b = one(Rv.jalr(3, 1, -7), 1000 + 8, 0);
