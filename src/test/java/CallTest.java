@@ -27,6 +27,7 @@ public final class CallTest {
         seek();
         temporaryName();
         remove();
+        removeOfTwelve();
         rename();
         times();
         command();
@@ -211,6 +212,9 @@ public final class CallTest {
         is(b, "WRITE0 with the last 0", b.callAt(4, 16381), 0, 14);
         check.same("OUT at last", b.output(0), "h\0hien");
         check.same("ERR", b.x.printed(1), 0);
+        b.bytes(0, "zero\0");
+        is(b, "WRITE0 at 0", b.callAt(4, 0), 0, 14);
+        check.same("OUT from 0 on", b.output(0), "h\0hienzero");
     }
 
     private static void writeFaults() {
@@ -485,6 +489,24 @@ public final class CallTest {
         is(b, "a new one to ADD", b.open("next", 8), 2, 16);
         check.same("has none of what is gone", b.x.file(2, 0), 0);
         check.same("nor its NAME", b.names(), "b a next");
+    }
+
+    private static void removeOfTwelve() {
+        Bench b = new Bench();
+        for (int i = 0; i < 12; i++) {
+            b.lay("f" + i, Bench.times('x', i));
+        }
+        b.open(":tt", 0);
+        check.same("the CONSOLE has none of twelve", b.x.handle(1, 2), -1);
+        is(b, "REMOVE of the last", b.remove("f11"), 0, 0);
+        check.same("eleven", b.x.files(), 11);
+        b.lay("g", "new");
+        is(b, "REMOVE of the first", b.remove("f0"), 0, 0);
+        check.same("eleven again", b.names(), "f1 f2 f3 f4 f5 f6 f7 f8 f9 f10 g");
+        check.same("bytes of the last", b.content(10), "new");
+        check.same("bytes of the first", b.x.file(0, 0), 1);
+        is(b, "room for one", b.open("h", 8), 2, 0);
+        fails(b, "and no more", b.open("i", 8), 28);
     }
 
     private static void rename() {

@@ -186,6 +186,11 @@ public final class GuestTest {
         check.same("LB above 0", b.x.register(12), 127);
         check.same("LW by less", b.x.register(13), 0x12345678);
         check.same("LB at the end", b.x.register(14), -128);
+        b.words(0, Rv.load(5, 5, 1, 0));
+        b.x.set(1, 16382);
+        b.x.set(32, 0);
+        b.x.run(1);
+        check.same("LHU at the end", b.x.register(5), 0x8000);
     }
 
     private static void stores() {
