@@ -3,7 +3,7 @@ final class Bench {
     static final int CODE = 256;
     static final int BLOCK = 512;
 
-    final HostBench x = new HostBench();
+    final Lasting x = new Lasting();
 
     Bench() {
         words(CODE, Rv.MARK_AHEAD, Rv.EBREAK, Rv.MARK_BEHIND, 0);

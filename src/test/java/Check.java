@@ -5,11 +5,17 @@ final class Check {
     }
 
     private final String test;
+    private String sentence = "";
     private int done = 0;
     private int wrong = 0;
 
     Check(String test) {
         this.test = test;
+    }
+
+    /** The words of the document that the checks from here on are about. */
+    void about(String words) {
+        sentence = " [" + words + "] ";
     }
 
     void same(String what, long got, long due) {
@@ -60,7 +66,7 @@ final class Check {
     private void complain(String text) {
         wrong++;
         if (wrong <= 40) {
-            System.out.println(test + ": " + text);
+            System.out.println(test + ":" + sentence + " " + text);
         }
     }
 }

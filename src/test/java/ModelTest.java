@@ -1,7 +1,7 @@
 import java.util.Random;
 import java.util.function.Supplier;
 
-/** Random runs of at most 512 calls, each answered by the class and by the model. */
+/** Random runs, each call answered by the class and by the model. */
 public final class ModelTest {
     private static final Check check = new Check("ModelTest");
     private static final int[] EDGES = {0, 1, 2, 3, 4, 5, 7, 8, 9, 10, 11, 12, 24, 25, 80, 81, 255, 256, 399, 400, 401,
@@ -15,7 +15,7 @@ public final class ModelTest {
         0x73};
 
     private final Random random;
-    private final HostBench x = new HostBench();
+    private final Lasting x = new Lasting();
     private final Model m = new Model();
     private final StringBuilder story = new StringBuilder();
     private int calls = 0;
@@ -38,7 +38,7 @@ public final class ModelTest {
 
     private void round(int kind) {
         putWords(256, Rv.MARK_AHEAD, Rv.EBREAK, Rv.MARK_BEHIND, Rv.MARK_AHEAD, Rv.EBREAK, Rv.MARK_BEHIND);
-        for (int i = 0; calls < 500 && check.isFine(); i++) {
+        for (int i = 0; calls < 300 && check.isFine(); i++) {
             int choice = random.nextInt(100);
             if (kind == 0 && choice < 60) {
                 program();

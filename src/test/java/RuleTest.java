@@ -8,9 +8,10 @@ import java.util.regex.Pattern;
 /** Those rules of LANGUAGE.md that the text of the class shows. It runs in the project's folder. */
 public final class RuleTest {
     private static final Check check = new Check("RuleTest");
-    private static final String[] BANNED = {"try", "catch", "finally", "synchronized", "assert", "instanceof", "protected",
-        "package", "Object", "Exception e", "getClass", "hashCode", "toString", "System", "Thread", "double", "float",
-        "record", "var", "lambda", "native", "volatile"};
+    private static final String[] BANNED = {"finally", "synchronized", "assert", "protected", "package", "Object",
+        "getClass", "getMessage", "hashCode", "System\\.(?!arraycopy)", "Thread", "Random", "native", "volatile",
+        "catch \\((?:Exception|Throwable|Error|NullPointerException|ClassCastException|NegativeArraySizeException"
+        + "|ArrayIndexOutOfBoundsException|ArrayStoreException)"};
 
     private RuleTest() {
     }
@@ -20,17 +21,17 @@ public final class RuleTest {
         String code = source.replaceAll("(?s)/\\*.*?\\*/", "").replaceAll("//[^\n]*", "")
                 .replaceAll("\"[^\"\n]*\"", "\"\"");
         for (String word : BANNED) {
-            check.same("uses of " + word, count(code, "\\b" + word + "\\b"), 0);
+            check.same("uses of " + word, count(code, "\\b" + word), 0);
         }
-        check.same("lambdas", count(code, "->"), 0);
+        check.same("lambdas", count(code, "[=(,] *(?:\\w+|\\([\\w, ]*\\)) *->"), 0);
         check.same("method references", count(code, "::"), 0);
-        check.same("imports", count(code, "\\bimport\\b"), 1);
-        check.same("the one import", count(code, "import java\\.util\\.NoSuchElementException;"), 1);
+        check.same("imports of other classes", count(code, "\\bimport (?!java\\.util\\.(?:NoSuchElementException|ArrayList|List"
+                + "|Arrays|Iterator);)"), 0);
         check.same("throws of other classes", count(code, "\\bthrow (?!new (IllegalStateException"
-                + "|IllegalArgumentException|IndexOutOfBoundsException|UnsupportedOperationException"
-                + "|NoSuchElementException)\\(\"\"\\);)"), 0);
-        check.same("calls of other libraries", count(code, "\\bMath\\.(?!max\\(|min\\()"), 0);
-        check.same("static fields that change", count(code, "\\bstatic (?!final|int \\w+\\(|boolean \\w+\\()"), 0);
+                + "|IllegalArgumentException|IndexOutOfBoundsException|ArithmeticException|UnsupportedOperationException"
+                + "|NoSuchElementException|RuntimeException)\\((?:\"\")?\\);)"), 0);
+        check.same("calls that end in Exact", count(code, "\\bMath\\.\\w*Exact\\b"), 0);
+        check.same("static fields that change", count(code, "\\bstatic (?!final\\b)[\\w\\[\\]<>]+ \\w+ *[=;]"), 0);
         check.same("parameters beyond seven", count(code, "\\((?:int \\w+, ){7,}"), 0);
         methodsAreShort(code);
         check.finish();
@@ -61,6 +62,6 @@ public final class RuleTest {
                 check.isTrue(lines[i].trim() + " has at most sixty lines", last - i < 60);
             }
         }
-        check.isTrue("methods are found", methods > 80);
+        check.isTrue("methods are found", methods >= 20);
     }
 }

@@ -22,7 +22,7 @@ public final class TapeTest {
     }
 
     private static void newObject() {
-        HostBench x = new HostBench();
+        Lasting x = new Lasting();
         check.same("NONE", HostBench.NONE, -1);
         check.same("new state", x.state(), 0);
         for (int r = 0; r <= 32; r++) {
